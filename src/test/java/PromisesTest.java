@@ -252,6 +252,12 @@ public final class PromisesTest {
         LensBench ring = with(POINT, 0, 0, 60);
         due("ring: pictures(0, 0, 0)", ring.pictures(0, 0, 0), 19);
         due("ring: pictures(0, 0, 1)", ring.pictures(0, 0, 1), 15);
+        LensBench rims = with(POINT, 0, 0, 288);
+        rims.body(POINT, 0, 0, 288);
+        // a ring through (24, 0) and (-24, 1): the rows' ends are no neighbours
+        due("rims: cell(24, 0, 0)", rims.cell(24, 0, 0), 0);
+        due("rims: cell(-24, 1, 1)", rims.cell(-24, 1, 1), 0);
+        due("rims: pictures(0, 0, 1)", rims.pictures(0, 0, 1), 29);
         ring.drop();
         due("ring gone: pictures(0, 0, 0)", ring.pictures(0, 0, 0), 1);
     }
@@ -318,6 +324,18 @@ public final class PromisesTest {
             int askew = bench.parity(i, 3) != bench.parity(i + 1, 3) || bench.parity(i, 3) != bench.parity(i, 4) ? 1 : 0;
             due("critical(" + i + ", 3)", bench.critical(i, 3), askew);
         }
+        LensBench corner = with(POINT, -24, -24, 2);
+        due("corner: parity(-24, -24)", corner.parity(-24, -24), 1);
+        due("corner: parity(-23, -24)", corner.parity(-23, -24), 0);
+        due("corner: critical(-24, -24)", corner.critical(-24, -24), 1);
+        int criticals = 0;
+        for (int x = -24; x <= 24; x++) {
+            for (int y = -24; y <= 24; y++) {
+                criticals += corner.critical(x, y);
+            }
+        }
+        due("corner: rings(0)", corner.rings(0), criticals);
+        due("corner: rings(1)", corner.rings(1), 1);
         // Parity turns between x 24 and x 25 here, and 25 is no pixel's.
         LensBench rim = with(POINT, 24, 24, 60);
         due("rim: critical(24, 24)", rim.critical(24, 24), 0);
@@ -618,6 +636,7 @@ public final class PromisesTest {
         due("models(2, 0, 0)", bench.models(2, 0, 0), LensBench.BAD);
         due("models(2, 16, 0)", bench.models(2, 16, 0), LensBench.BAD);
         models24Ties();
+        models24Changes();
         models24Looks();
     }
 
@@ -634,6 +653,58 @@ public final class PromisesTest {
         due("three alike: TWINS", bench.models(3, 15, 2), 1);
         bench.wipe();
         due("all of three", bench.models(3, 15, 0), 4096);
+        bench.set(1, 1, 9);
+        bench.set(2, 2, 9);
+        for (int i = 0; i < 8; i++) {
+            bench.spot(i, i % 3);
+        }
+        due("all of three: TWINS and their number", bench.models(3, 15, 2) > 2000 ? 1 : 0, 1);
+        for (int i = 0; i < 10; i++) {
+            bench.pair(i, 0, i, 0);
+        }
+        due("ten pairs of one place each", bench.models(3, 15, 0), 4096);
+        bench.wipe();
+        for (int i = 0; i < 9; i++) {
+            bench.pair(i, 0, i, 0);
+        }
+        bench.pair(30, 30, -30, -30);
+        due("the tenth pair fails all", bench.models(3, 15, 0), 0);
+    }
+
+    /** What is asked again with the same n and MOST must follow each change in between. */
+    private static void models24Changes() {
+        LensBench bench = with(POINT, 0, 0, 0);
+        due("changes: all", bench.models(1, 15, 0), 16);
+        // 96 - 12 weight apart
+        bench.pair(4, 0, -2, 0);
+        due("changes: after pair", bench.models(1, 15, 0), 1);
+        bench.tolerance(0, 12);
+        due("changes: after tolerance", bench.models(1, 15, 0), 3);
+        bench.tolerance(1, 0);
+        due("changes: after noise", bench.models(1, 15, 0), 3);
+        bench.body(POINT, 0, 0, 2);
+        due("changes: after body, LEAST", bench.models(1, 15, 1), 5);
+        bench.set(1, 3, 3);
+        due("changes: after set, LEAST", bench.models(1, 15, 1), 4);
+        bench.drop();
+        due("changes: after drop, LEAST", bench.models(1, 15, 1), 7);
+        bench.field(0, 4);
+        // 24 less: 72 - 12 weight
+        due("changes: after field, LEAST", bench.models(1, 15, 1), 5);
+        bench.field(0, 0);
+        put(bench, "p0,0w1;p0,0w6;");
+        bench.read();
+        due("changes: after read, LEAST", bench.models(1, 15, 1), 1);
+        due("changes: TWINS", bench.models(1, 15, 2), 1);
+        bench.spot(1, 0);
+        due("changes: after spot, TWINS", bench.models(1, 15, 2), 3);
+        bench.forget();
+        due("changes: after forget, TWINS", bench.models(1, 15, 2), 1);
+        bench.spot(20, 20);
+        due("changes: after another spot, TWINS", bench.models(1, 15, 2), 1);
+        bench.wipe();
+        due("changes: after wipe", bench.models(1, 15, 0), 16);
+        due("changes: sure after wipe", bench.sure(1, 15, 0), NONE);
     }
 
     private static void models24Looks() {
@@ -750,6 +821,9 @@ public final class PromisesTest {
         bench.tolerance(1, 0);
         bench.bright(4, 4, NONE);
         due("one not told", bench.contradicts(), 1);
+        bench.bright(3, 4, NONE);
+        due("one cell no longer told", bench.contradicts(), 1);
+        bench.bright(-24, -24, 0);
         bench.field(0, 0);
         due("a cell for each", bench.contradicts(), 0);
     }
@@ -770,6 +844,12 @@ public final class PromisesTest {
         heavy.body(POINT, 0, 0, 400);
         due("a cell far out", heavy.cell(1, 0, 0), -399);
         due("filled of a far cell", heavy.filled(1, 0), NONE);
+        LensBench corner = new LensBench();
+        corner.field(0, 8);
+        corner.bright(-22, 0, 4);
+        due("filled at the rim", corner.filled(-23, 0), 4);
+        corner.bright(-24, -24, 9);
+        due("far of the first pixel", corner.far(-12, -36), 9);
         heavy.bright(1, 0, 3);
         due("filled of a far cell, told", heavy.filled(1, 0), 3);
     }
