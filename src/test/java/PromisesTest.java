@@ -367,6 +367,7 @@ public final class PromisesTest {
         due("brightest(3)", bench.brightest(3), NO);
         due("brightest(-1)", bench.brightest(-1), NO);
         LensBench plain = new LensBench();
+        due("plain: the first pixel's own group", plain.group(-24, -24, 0, 2), 1);
         due("plain: brightest(0)", plain.brightest(0), 1);
         due("plain: brightest(1)", plain.brightest(1), -24);
         due("plain: brightest(2)", plain.brightest(2), -24);
@@ -629,6 +630,8 @@ public final class PromisesTest {
         bench.tolerance(0, 0);
         due("one fits", bench.models(2, 15, 0), 1);
         due("LEAST of one", bench.models(2, 15, 1), 5);
+        due("TWINS of one", bench.models(2, 15, 2), 1);
+        due("NEXT LOOK for one", bench.models(2, 15, 3), 0);
         due("models(2, 15, 4)", bench.models(2, 15, 4), LensBench.BAD);
         due("models(2, 15, -1)", bench.models(2, 15, -1), LensBench.BAD);
         due("models(3, 4, 0)", bench.models(3, 4, 0), LensBench.BAD);
@@ -821,11 +824,21 @@ public final class PromisesTest {
         bench.tolerance(1, 0);
         bench.bright(4, 4, NONE);
         due("one not told", bench.contradicts(), 1);
+        bench.bright(4, 4, 99);
+        due("told again", bench.contradicts(), 2);
         bench.bright(3, 4, NONE);
+        bench.bright(4, 4, NONE);
         due("one cell no longer told", bench.contradicts(), 1);
-        bench.bright(-24, -24, 0);
         bench.field(0, 0);
         due("a cell for each", bench.contradicts(), 0);
+        LensBench corner = new LensBench();
+        // light comes from (9 x, 23 y)
+        corner.field(0, 7);
+        corner.bright(-24, -24, 0);
+        corner.bright(-23, -24, 6);
+        due("corner: cell(-24, -24, 0)", corner.cell(-24, -24, 0), -13);
+        due("corner: cell(-23, -24, 0)", corner.cell(-23, -24, 0), -13);
+        due("corner: contradicts()", corner.contradicts(), 1);
     }
 
     private static void promise31Filled() {

@@ -20,7 +20,39 @@ public final class RandomRunsTest {
         for (int seed = 1; seed <= 60; seed++) {
             new RandomRunsTest(seed).run();
         }
+        for (int seed = 1001; seed <= 1060; seed++) {
+            new RandomRunsTest(seed).lookAtAll();
+        }
         checks.end();
+    }
+
+    /** Every ring, every group of the cell with most pictures, through a lens of many bodies. */
+    private void lookAtAll() {
+        int bodies = 1 + random.nextInt(8);
+        for (int i = 0; i < bodies; i++) {
+            int kind = random.nextInt(3);
+            int x = random.nextInt(61) - 30;
+            int y = random.nextInt(61) - 30;
+            int weight = random.nextInt(random.nextBoolean() ? 401 : 61);
+            due("body", i, fast.body(kind, x, y, weight), slow.body(kind, x, y, weight));
+            int edge = random.nextInt(40);
+            due("set", i, fast.set(i, 5, edge), slow.set(i, 5, edge));
+        }
+        for (int what = 0; what < 4; what++) {
+            due("rings", what, fast.rings(what), slow.rings(what));
+            due("brightest", what, fast.brightest(what), slow.brightest(what));
+        }
+        int cellX = slow.brightest(1);
+        int cellY = slow.brightest(2);
+        for (int near = -1; near <= 1; near++) {
+            int groups = slow.pictures(cellX + near, cellY, 1);
+            due("pictures", near, fast.pictures(cellX + near, cellY, 1), groups);
+            for (int i = 0; i <= Math.min(groups, 5); i++) {
+                for (int what = 0; what < 4; what++) {
+                    due("group", i, fast.group(cellX + near, cellY, i, what), slow.group(cellX + near, cellY, i, what));
+                }
+            }
+        }
     }
 
     private void run() {
