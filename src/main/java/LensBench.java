@@ -198,7 +198,7 @@ public final class LensBench {
             return NO;
         }
         plane.lookAnew();
-        return plane.delayAlongX(x, y, toX, farX) + plane.delayAlongY(toX, y, toY, farY);
+        return plane.delayOnWay(x, y, toX, toY, farX, farY);
     }
 
     public int stretch(int n) {
@@ -608,24 +608,18 @@ public final class LensBench {
             return found;
         }
 
-        private long delayAlongX(int x, int y, int toX, int farX) {
-            int step = Integer.signum(toX - x);
-            int steps = Math.abs(toX - x);
-            long sum = 0;
-            for (int i = 0; i < steps; i++) {
-                int here = x + i * step;
-                sum += (long) step * (lightX[placeAt(here, y)] + lightX[placeAt(here + step, y)] - 2 * farX);
-            }
-            return sum;
+        private long delayOnWay(int x, int y, int toX, int toY, int farX, int farY) {
+            return delayAlong(lightX, placeAt(x, y), toX - x, 1, farX)
+                    + delayAlong(lightY, placeAt(toX, y), toY - y, WIDE_SIDE, farY);
         }
 
-        private long delayAlongY(int x, int y, int toY, int farY) {
-            int step = Integer.signum(toY - y);
-            int steps = Math.abs(toY - y);
+        /** The sign of steps is their direction; stride is what a step forwards adds to a place. */
+        private static long delayAlong(int[] light, int begin, int steps, int stride, int far) {
+            int sign = Integer.signum(steps);
             long sum = 0;
-            for (int i = 0; i < steps; i++) {
-                int here = y + i * step;
-                sum += (long) step * (lightY[placeAt(x, here)] + lightY[placeAt(x, here + step)] - 2 * farY);
+            for (int i = 0; i < Math.abs(steps); i++) {
+                int here = begin + i * sign * stride;
+                sum += (long) sign * (light[here] + light[here + sign * stride] - 2 * far);
             }
             return sum;
         }
