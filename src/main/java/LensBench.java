@@ -102,7 +102,7 @@ public final class LensBench {
             return NO;
         }
         int[] bending = lens.bodies[body];
-        traced += Lens.askedBy(kind, bending, x, y);
+        traced += Lens.askedBy(kind);
         return Lens.bendBy(kind, bending, bending[WEIGHT], x, y, axis);
     }
 
@@ -516,17 +516,16 @@ public final class LensBench {
             return kind == POINT ? byPoint : byPoint * r / (r + body[CORE]);
         }
 
-        /** What one bend() adds to the trace: a kind asks up only where its answer hangs on it. */
-        private static int askedBy(int kind, int[] body, int x, int y) {
-            if (kind == POINT) {
-                return 1;
+        /** What one bend() adds to the trace: each kind asks up at every place, also where its answer is 0. */
+        private static int askedBy(int kind) {
+            switch (kind) {
+                case POINT:
+                    return 1;
+                case SOFT:
+                    return 11;
+                default:
+                    return 111;
             }
-            int r = squares(body, x, y);
-            if (kind == CUT && isCutAway(body, r)) {
-                return 100;
-            }
-            int own = kind == CUT ? 110 : 10;
-            return r == 0 && body[CORE] == 0 ? own : own + 1;
         }
 
         private static boolean isCutAway(int[] body, int r) {

@@ -901,20 +901,25 @@ public final class PromisesTest {
         bench.bend(CUT, 0, 3, 4, 1);
         due("CUT on its edge", bench.trace(), 235);
         bench.bend(CUT, 0, 3, 5, 1);
-        due("CUT beyond its edge asks none", bench.trace(), 335);
+        due("CUT beyond its edge asks up, too", bench.trace(), 346);
         bench.bend(SOFT, 0, 0, 0, 1);
-        due("SOFT at its place, with a core", bench.trace(), 346);
+        due("SOFT at its place, with a core", bench.trace(), 357);
         bench.set(0, 4, 0);
         bench.bend(SOFT, 0, 0, 0, 1);
-        due("SOFT where both are 0 asks none", bench.trace(), 356);
+        due("SOFT where both are 0 asks up, too", bench.trace(), 368);
+        bench.bend(CUT, 0, 0, 0, 0);
+        due("CUT where SOFT answers 0", bench.trace(), 479);
+        bench.set(0, 5, 0);
+        bench.bend(CUT, 0, 60, -60, 1);
+        due("CUT far beyond an edge of 0", bench.trace(), 590);
         bench.bend(3, 0, 0, 0, 0);
         bench.bend(0, 1, 0, 0, 0);
         bench.bend(0, 0, 61, 0, 0);
         bench.bend(0, 0, 0, 0, 2);
-        due("refused ones", bench.trace(), 356);
+        due("refused ones", bench.trace(), 590);
         bench.from(3, 3, 0);
         bench.rings(1);
         bench.models(1, 5, 0);
-        due("other calls", bench.trace(), 356);
+        due("other calls", bench.trace(), 590);
     }
 }

@@ -106,9 +106,7 @@ final class SlowBench {
             return NO;
         }
         int[] b = bodies.get(body);
-        boolean away = Math.hypot(x - b[1], y - b[2]) > b[5] + 1e-9;
-        boolean still = x == b[1] && y == b[2] && b[4] == 0;
-        trace += kind == 0 ? 1 : kind == 2 && away ? 100 : (kind == 2 ? 110 : 10) + (still ? 0 : 1);
+        trace += 1 + (kind >= 1 ? 10 : 0) + (kind >= 2 ? 100 : 0);
         return (int) bent(kind, b, x, y, axis);
     }
 
