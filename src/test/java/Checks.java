@@ -2,12 +2,18 @@
 final class Checks {
     private int asked;
     private int wrong;
+    private String begun = "";
+
+    /** Names the test that the next answers belong to. */
+    void begin(String test) {
+        begun = test + ": ";
+    }
 
     void due(String call, long got, long want) {
         asked++;
         if (got != want) {
             wrong++;
-            System.out.println(call + " answered " + got + ", due is " + want);
+            System.out.println(begun + call + " answered " + got + ", due is " + want);
         }
     }
 

@@ -69,12 +69,6 @@ public final class PromisesTest {
         return bench;
     }
 
-    private static void put(LensBench bench, String text) {
-        for (int i = 0; i < text.length(); i++) {
-            bench.type(text.charAt(i), 1);
-        }
-    }
-
     private static void promise1NewObject() {
         LensBench bench = new LensBench();
         for (int what = 0; what <= 5; what++) {
@@ -330,8 +324,9 @@ public final class PromisesTest {
         due("corner: critical(-24, -24)", corner.critical(-24, -24), 1);
         int criticals = 0;
         for (int x = -24; x <= 24; x++) {
+            LensBench column = with(POINT, -24, -24, 2);
             for (int y = -24; y <= 24; y++) {
-                criticals += corner.critical(x, y);
+                criticals += column.critical(x, y);
             }
         }
         due("corner: rings(0)", corner.rings(0), criticals);
@@ -410,37 +405,23 @@ public final class PromisesTest {
         bench.field(0, 1);
         // a less d is -4 all over; half of it times (x x less y y) adds up to 0 over a square
         due("field: stretch(5)", bench.stretch(5), 0);
-        LensBench lens = with(POINT, 1, 1, 40);
-        lens.field(0, 3);
-        lens.field(1, -2);
+        LensBench lens = fourth();
         due("stretch(3)", lens.stretch(3), 64);
         due("stretch(0)", lens.stretch(0), NO);
         due("stretch(25)", lens.stretch(25), NO);
         due("stretch(-1)", lens.stretch(-1), NO);
         for (int n = 1; n <= 24; n++) {
-            due("stretch(" + n + ")", lens.stretch(n), stretchByFrom(lens, n));
-        }
-        LensBench negative = with(POINT, 5, 0, 3);
-        for (int n = 1; n <= 24; n++) {
-            due("negative: stretch(" + n + ")", negative.stretch(n), stretchByFrom(negative, n));
+            due("stretch(" + n + ")", lens.stretch(n),
+                    Math.floorDiv(PicturesBoundaries.doubledStretch(PromisesTest::fourth, n), 128));
         }
     }
 
-    private static long stretchByFrom(LensBench lens, int n) {
-        long twice = 0;
-        for (int x = -n; x <= n; x++) {
-            for (int y = -n; y <= n; y++) {
-                if (Math.abs(x) != n && Math.abs(y) != n) {
-                    continue;
-                }
-                long a = lens.from(x + 1, y, 0) - lens.from(x - 1, y, 0);
-                long b = lens.from(x + 1, y, 1) - lens.from(x - 1, y, 1);
-                long c = lens.from(x, y + 1, 0) - lens.from(x, y - 1, 0);
-                long d = lens.from(x, y + 1, 1) - lens.from(x, y - 1, 1);
-                twice += 2 * (b + c) * x * y - (a - d) * (x * x - y * y);
-            }
-        }
-        return Math.floorDiv(twice, 128);
+    private static LensBench fourth() {
+        LensBench lens = new LensBench();
+        lens.body(POINT, 1, 1, 40);
+        lens.field(0, 3);
+        lens.field(1, -2);
+        return lens;
     }
 
     private static void promise17Type() {
@@ -470,16 +451,16 @@ public final class PromisesTest {
     private static void promise18Clear() {
         LensBench bench = new LensBench();
         due("clear() of none", bench.clear(), 0);
-        put(bench, "p1,1w");
+        Boundaries.put(bench, "p1,1w");
         due("clear()", bench.clear(), 5);
         due("clear() again", bench.clear(), 0);
-        put(bench, "p1,1w1;");
+        Boundaries.put(bench, "p1,1w1;");
         due("read after clear()", bench.read(), 1);
     }
 
     /** What read() answers to a text; after a fault the text is cleared for the next. */
     private static void dueRead(LensBench bench, String text, int want) {
-        put(bench, text);
+        Boundaries.put(bench, text);
         due("read() of " + text, bench.read(), want);
         due("bytes after read() of " + text, bench.clear(), want >= 0 ? 0 : text.length());
     }
@@ -695,7 +676,7 @@ public final class PromisesTest {
         // 24 less: 72 - 12 weight
         due("changes: after field, LEAST", bench.models(1, 15, 1), 5);
         bench.field(0, 0);
-        put(bench, "p0,0w1;p0,0w6;");
+        Boundaries.put(bench, "p0,0w1;p0,0w6;");
         bench.read();
         due("changes: after read, LEAST", bench.models(1, 15, 1), 1);
         due("changes: TWINS", bench.models(1, 15, 2), 1);
