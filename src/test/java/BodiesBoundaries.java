@@ -281,7 +281,8 @@ final class BodiesBoundaries extends Boundaries {
 
     void promise5Ends() {
         ends(Boundaries::plain, FIELD, v -> 0, NO, new Range("what", 0, 1, 0), new Range("v", -8, 8, 3));
-        ends(Boundaries::rich, FIELD, v -> v[0] == 0 ? 1 : -2, NO, new Range("what", 0, 1, 1), new Range("v", -8, 8, -5));
+        ends(Boundaries::rich, FIELD, v -> v[0] == 0 ? 1 : -2, NO,
+                new Range("what", 0, 1, 1), new Range("v", -8, 8, -5));
     }
 
     void promise5EndsStandAsSet() {
@@ -463,7 +464,8 @@ final class BodiesBoundaries extends Boundaries {
 
     void promise8Ends() {
         ends(Boundaries::plain, CELL, v -> v[v[2]], NO, OF_PLACE);
-        ends(() -> withField(-8, 0), CELL, v -> Math.floorDiv((v[2] == 0 ? 24 * v[0] : 8 * v[1]) + 8, 16), NO, OF_PLACE);
+        ends(() -> withField(-8, 0), CELL, v -> Math.floorDiv((v[2] == 0 ? 24 * v[0] : 8 * v[1]) + 8, 16), NO,
+                OF_PLACE);
     }
 
     void promise8RoundedDown() {

@@ -117,8 +117,9 @@ abstract class Boundaries {
 
     private void refused(Scene scene, List<Long> untouched, String name, Call call, int[] numbers, long refusal) {
         LensBench bench = scene.made();
-        due(name + " " + Arrays.toString(numbers), call.on(bench, numbers), refusal);
-        checks.dueTrue(name + " " + Arrays.toString(numbers) + " changes nothing", Snapshot.of(bench).equals(untouched));
+        String asked = name + " " + Arrays.toString(numbers);
+        due(asked, call.on(bench, numbers), refusal);
+        checks.dueTrue(asked + " changes nothing", Snapshot.of(bench).equals(untouched));
     }
 
     /** The call answers as due and changes nothing. */

@@ -31,6 +31,18 @@ final class BrightnessBoundaries extends Boundaries {
         return bench;
     }
 
+    /** (24, 0) and (23, 0) show one CELL beyond those that may be asked: each is pushed by a body beside it. */
+    private static LensBench farPair(int of24, int of23) {
+        LensBench bench = withField(8, 0);
+        for (int i = 0; i <= 1; i++) {
+            bench.body(CUT, 25 - i, 0, 100);
+            bench.set(i, EDGE, 1);
+        }
+        bench.bright(24, 0, of24);
+        bench.bright(23, 0, of23);
+        return bench;
+    }
+
     // ---- promise 28
 
     void promise28Ends() {
@@ -218,21 +230,11 @@ final class BrightnessBoundaries extends Boundaries {
     }
 
     void promise30CellsBeyondThoseAsked() {
-        // two pixels beside the rim come from one cell beyond 99: the same light twice
-        LensBench bench = plain();
-        bench.body(POINT, 25, 0, 400);
-        bench.field(0, 8);
-        SlowBench slow = new SlowBench();
-        slow.body(POINT, 25, 0, 400);
-        slow.field(0, 8);
-        for (int y = -24; y <= 24; y++) {
-            for (int x = 22; x <= 24; x++) {
-                int v = (x * 7 + y * 13 + 1000) % 100;
-                bench.bright(x, y, v);
-                slow.bright(x, y, v);
-            }
-        }
-        due("beside a heavy body", bench.contradicts(), slow.contradicts());
+        due("the CELL of (24, 0)", farPair(0, 99).cell(24, 0, 0), 112);
+        due("the CELL of (23, 0)", farPair(0, 99).cell(23, 0, 0), 112);
+        due("99 apart", farPair(0, 99).contradicts(), 1);
+        due("5 apart", farPair(94, 99).contradicts(), 0);
+        due("6 apart", farPair(93, 99).contradicts(), 1);
     }
 
     // ---- promise 31
@@ -259,19 +261,11 @@ final class BrightnessBoundaries extends Boundaries {
     }
 
     void promise31CellsBeyondThoseAsked() {
-        due("one told in a far cell", moved(1, 400).filled(24, 0), 50);
-        LensBench bench = moved(1, 400);
-        bench.bright(24, 0, NONE);
-        due("none told in a far cell", bench.filled(24, 0), NONE);
-        LensBench two = plain();
-        two.body(CUT, 24, 0, 400);
-        two.set(0, EDGE, 1);
-        two.body(CUT, 22, 0, 400);
-        two.set(1, EDGE, 1);
-        // between both the light is as without them
-        two.bright(23, 0, 8);
-        due("between two bodies", two.far(23, 0), 8);
-        due("beside them", two.filled(21, 0), NONE);
+        due("its own", farPair(40, NONE).filled(24, 0), 40);
+        due("its CELL's", farPair(40, NONE).filled(23, 0), 40);
+        due("its CELL's", farPair(NONE, 41).filled(24, 0), 41);
+        due("none told", farPair(NONE, NONE).filled(24, 0), NONE);
+        due("FAR of it", farPair(40, 41).far(112, 0), BAD);
     }
 
     void promise31NothingIsTold() {

@@ -409,7 +409,6 @@ final class PicturesBoundaries extends Boundaries {
         LensBench bench = plain();
         add(bench, -10, -5, 1, 1);
         due("one alone", bench.brightest(1), -10);
-        // askew pixels, too: weight 2 by 2 along both axes
         add(bench, 10, 5, 2, 2);
         add(bench, 20, 20, 1, 1);
         SlowBench slow = new SlowBench();
@@ -463,7 +462,8 @@ final class PicturesBoundaries extends Boundaries {
             LensBench bench = rich();
             int axis = step[0] != 0 ? 0 : 1;
             int sign = step[0] + step[1];
-            long want = sign * (bench.from(2, 3, axis) + bench.from(2 + step[0], 3 + step[1], axis) - 2L * (axis == 0 ? 100 : -7));
+            long ends = bench.from(2, 3, axis) + bench.from(2 + step[0], 3 + step[1], axis);
+            long want = sign * (ends - 2L * (axis == 0 ? 100 : -7));
             due("a step by " + step[0] + ", " + step[1], bench.delay(2, 3, 2 + step[0], 3 + step[1], 100, -7), want);
         }
     }

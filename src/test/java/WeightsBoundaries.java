@@ -286,6 +286,17 @@ final class WeightsBoundaries extends Boundaries {
         due("as told before", bench.set(2, WEIGHT, 0), 8);
     }
 
+    void promise23RefusedBetweenAskedOnes() {
+        LensBench bench = eightTogether();
+        due("LEAST", bench.models(2, 15, 1), 8);
+        due("a model too many of three", bench.fits(3, 2, 27), BAD);
+        due("LEAST again", bench.models(2, 15, 1), 8);
+        due("a model too many of one", bench.fits(1, 3, 4), BAD);
+        due("SURE", bench.sure(2, 4, 1), 4);
+        due("n 4", bench.models(4, 15, 0), BAD);
+        due("how many", bench.models(2, 4, 0), 1);
+    }
+
     void promise23OnlyAsks() {
         onlyAsks(Boundaries::rich, "fits", FITS, rich().fits(2, 15, 17), 2, 15, 17);
         onlyAsks(Boundaries::rich, "models", MODELS, rich().models(3, 15, 2), 3, 15, 2);
